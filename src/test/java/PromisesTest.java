@@ -247,9 +247,9 @@ public final class PromisesTest {
             "write(p>q) parse(4)=3 write(q>p) parse(5)=3 substitute(4,0,5,4)=5 setValue(0,0,0)=2 setValue(0,1,1)=1 value(0,4)=2");
         run("promise 18: 60 is the largest size",
             "write(p&p&p&p&p&p&p&p&p&p) parse(0)=19 write(p&q|r) parse(1)=5 substitute(0,0,1,2)=59 write(~p) parse(4)=2",
-            "substitute(4,0,2,3)=60 formulaSize(3)=60 substitute(4,0,3,3)=-5 substitute(4,0,3,5)=-5 formulaSize(5)=-3",
+            "substitute(4,0,2,3)=60 formulaSize(3)=60 value(0,3)=1 substitute(4,0,3,3)=-5 substitute(4,0,3,5)=-5 formulaSize(5)=-3",
             "formulaSize(3)=60 write(~~p) parse(4)=3 substitute(4,0,2,2)=-5 formulaSize(2)=59 substitute(4,1,2,2)=3",
-            "substitute(3,0,3,3)=-5 write(1) parse(5)=1 substitute(3,0,5,3)=60 isValid(0,3)=0");
+            "substitute(3,0,3,3)=-5 write(1) parse(5)=1 substitute(3,0,5,3)=60 isValid(0,3)=0 countValuations(0,3,1)=1");
         run("promise 18: refusals",
             "write(p) parse(0)=1 substitute(6,0,0,0)=-1 substitute(-1,0,0,0)=-1 substitute(0,3,0,0)=-1 substitute(0,-1,0,0)=-1",
             "substitute(0,0,6,0)=-1 substitute(0,0,-1,0)=-1 substitute(0,0,0,6)=-1 substitute(0,0,0,-1)=-1 substitute(1,3,0,0)=-1",
@@ -409,6 +409,8 @@ public final class PromisesTest {
             "reset(0,5)=1 relate(0,0,3)=1 relate(0,1,4)=2 relate(0,3,4)=4 elementOf(0,26)=8 restrict(0,8,1)=3 property(1,5)=2",
             "isBelow(1,0,2)=1 isBelow(1,1,2)=1 isBelow(1,0,1)=0 restrict(0,0,1)=-2 points(1)=3 restrict(0,8,0)=3 points(0)=3",
             "isIsomorphic(0,1)=1 isBelow(0,1,2)=1 restrict(0,4,0)=3 points(0)=3");
+        run("promise 37: restrict keeps point 0",
+            "reset(0,4)=1 relate(0,0,3)=1 elementOf(0,9)=5 restrict(0,5,1)=2 isBelow(1,0,1)=1 isBelow(1,1,0)=0 isBelow(1,0,0)=1");
         run("promise 37: refusals",
             "restrict(0,2,0)=-1 restrict(0,-1,0)=-1 restrict(4,1,0)=-1 restrict(0,1,4)=-1 restrict(0,1,-1)=-1 restrict(-1,1,0)=-1",
             "restrict(0,0,4)=-1 restrict(0,0,0)=-2 restrict(0,MAX,0)=-1 restrict(0,1,0)=1 reset(1,3)=1 restrict(0,2,1)=-1 points(1)=3");
@@ -441,7 +443,7 @@ public final class PromisesTest {
             "allocate(0,0,-1)=-11 allocate(0,3,-1)=-2 allocate(0,0,MIN)=-11 allocate(0,0,MAX)=-2 allocate(3,0,1)=-1 allocate(-1,0,1)=-1",
             "allocate(3,9,-1)=-1 rowElement(0,29)=0 put(0,29,7)=1 allocate(0,0,31)=-2 rowElement(0,29)=7 allocate(0,0,-1)=-11",
             "rowElement(0,29)=7 allocate(0,2,30)=30 rowElement(0,29)=0 put(0,3,9)=1 allocate(0,2,2)=2 rowElement(0,3)=NOTHING",
-            "allocate(0,2,4)=4 rowElement(0,3)=0");
+            "allocate(0,2,4)=4 rowElement(0,3)=0 put(0,0,8)=1 allocate(0,2,4)=4 rowElement(0,0)=0");
         run("promise 40: put",
             "put(0,0,1)=-8 put(3,0,1)=-1 put(-1,0,1)=-1 allocate(0,0,3)=3 put(0,3,1)=-10 put(0,-1,1)=-10 put(0,MIN,1)=-10 put(0,MAX,1)=-10",
             "put(0,0,128)=1 rowElement(0,0)=-128 put(0,1,-129)=1 rowElement(0,1)=127 put(0,2,256)=1 rowElement(0,2)=0",
@@ -478,7 +480,7 @@ public final class PromisesTest {
     private static void stored() throws IllegalAccessException {
         run("promise 43: storeElements",
             "storeElements(0,0)=-8 storeElements(3,0)=-1 storeElements(0,4)=-1 storeElements(-1,0)=-1 storeElements(0,-1)=-1",
-            "allocate(0,2,6)=6 put(0,5,9)=1 put(0,4,9)=1 reset(0,2)=1 storeElements(0,0)=4 rowElement(0,0)=0 rowElement(0,1)=1",
+            "allocate(0,2,6)=6 put(0,5,9)=1 put(0,4,9)=1 put(0,0,9)=1 reset(0,2)=1 storeElements(0,0)=4 rowElement(0,0)=0 rowElement(0,1)=1",
             "rowElement(0,2)=2 rowElement(0,3)=3 rowElement(0,4)=9 rowElement(0,5)=9 relate(0,1,0)=1 storeElements(0,0)=3",
             "rowElement(0,1)=1 rowElement(0,2)=3 rowElement(0,3)=3 storeElements(1,0)=-8 storeElements(1,4)=-1");
         run("promise 43: a row that is shorter is set all the same",

@@ -1,27 +1,6 @@
-import java.lang.reflect.InvocationTargetException;
-import java.lang.reflect.Method;
-import java.util.HashMap;
-import java.util.Map;
-import java.util.regex.Matcher;
-import java.util.regex.Pattern;
-
-/**
- * Runs for each promise. A run is a text of calls with the answers that are due, such as
- * "reset(0,2)=1 relate(0,0,1)=1"; write(p|~p) appends the characters one by one and has no answer.
- */
+/** Runs for each promise, with the answers that are due; Calls says how a run is written. */
 public final class PromisesTest {
-    private static final Pattern CALL = Pattern.compile("(\\w+)\\(([^ ]*)\\)(?:=(-?\\w+))?");
-    private static final Map<String, Method> METHODS = new HashMap<>();
-
-    private static int wrong = 0;
-    private static int calls = 0;
-
-    public static void main(String[] args) throws IllegalAccessException {
-        for (Method method : ImplicationAlgebras.class.getDeclaredMethods()) {
-            if (java.lang.reflect.Modifier.isPublic(method.getModifiers())) {
-                METHODS.put(method.getName(), method);
-            }
-        }
+    public static void main(String[] args) {
         posets();
         properties();
         elements();
@@ -41,70 +20,14 @@ public final class PromisesTest {
         stored();
         loaded();
         examples();
-        extremes();
-        System.out.println(wrong == 0 ? calls + " calls answered as due" : wrong + " answers are not as due");
-        if (wrong != 0) {
-            System.exit(1);
-        }
+        Calls.end();
     }
 
-    private static void run(String title, String... lines) throws IllegalAccessException {
-        ImplicationAlgebras bench = new ImplicationAlgebras();
-        int made = 0;
-        for (String line : lines) {
-            for (String part : line.trim().split(" +")) {
-                Matcher call = CALL.matcher(part);
-                if (!call.matches()) {
-                    throw new IllegalArgumentException(title + ": unreadable " + part);
-                }
-                if (call.group(1).equals("write")) {
-                    for (char c : call.group(2).toCharArray()) {
-                        bench.append(c);
-                        made++;
-                    }
-                } else {
-                    due(title, part, answer(bench, call.group(1), call.group(2)), number(call.group(3)));
-                    made++;
-                }
-            }
-        }
-        if (made > 512) {
-            throw new IllegalArgumentException(title + ": an object is used for at most 512 calls");
-        }
+    private static void run(String title, String... lines) {
+        Calls.run(title, lines);
     }
 
-    private static void due(String title, String part, long got, long want) {
-        calls++;
-        if (got != want) {
-            wrong++;
-            System.out.println(title + ": " + part + " answered " + got);
-        }
-    }
-
-    private static long number(String text) {
-        switch (text) {
-            case "MIN": return Integer.MIN_VALUE;
-            case "MAX": return Integer.MAX_VALUE;
-            case "NOTHING": return Long.MIN_VALUE;
-            default: return Long.parseLong(text);
-        }
-    }
-
-    private static long answer(ImplicationAlgebras bench, String name, String list) throws IllegalAccessException {
-        Method method = METHODS.get(name);
-        String[] parts = list.isEmpty() ? new String[0] : list.split(",");
-        Object[] arguments = new Object[parts.length];
-        for (int i = 0; i < parts.length; i++) {
-            arguments[i] = (int) number(parts[i]);
-        }
-        try {
-            return ((Number) method.invoke(bench, arguments)).longValue();
-        } catch (InvocationTargetException thrown) {
-            throw new IllegalStateException(name + "(" + list + ") threw", thrown.getCause());
-        }
-    }
-
-    private static void posets() throws IllegalAccessException {
+    private static void posets() {
         run("promise 1: a new object",
             "points(0)=1 points(1)=1 points(2)=1 points(3)=1 elementCount(0)=2 isBelow(3,0,0)=1 property(2,5)=0",
             "formulaSize(0)=-3 formulaSize(5)=-3 value(0,0)=-3 clearText()=0 clearGenerators()=0 term(0,0)=-1",
@@ -139,7 +62,7 @@ public final class PromisesTest {
             "covers(0,5)=-1 covers(0,-1)=-1 covers(4,0)=-1 covers(-1,0)=-1 covers(0,MIN)=-1 covers(MAX,0)=-1");
     }
 
-    private static void properties() throws IllegalAccessException {
+    private static void properties() {
         run("promise 7: property of the fence 0 < 1 > 2 < 3, and of 4 < 5",
             "reset(0,6)=1 relate(0,0,1)=1 relate(0,2,1)=2 relate(0,2,3)=3 relate(0,4,5)=4",
             "property(0,0)=2 property(0,1)=3 property(0,2)=3 property(0,3)=3 property(0,4)=2 property(0,5)=4",
@@ -157,7 +80,7 @@ public final class PromisesTest {
             "property(0,0)=2 property(0,1)=3 property(0,2)=1 property(0,3)=3 property(0,4)=1 property(0,5)=3");
     }
 
-    private static void elements() throws IllegalAccessException {
+    private static void elements() {
         run("promise 8: elementCount",
             "elementCount(0)=2 reset(0,6)=1 elementCount(0)=64 relate(0,0,1)=1 elementCount(0)=48 elementCount(1)=2",
             "elementCount(4)=-1 elementCount(-1)=-1 elementCount(MIN)=-1");
@@ -173,7 +96,7 @@ public final class PromisesTest {
             "reset(1,6)=1 elementOf(1,63)=63 elementOf(1,64)=-2 elementOf(1,32)=6");
     }
 
-    private static void algebra() throws IllegalAccessException {
+    private static void algebra() {
         run("promises 11 to 13: 0 < 1, 0 < 2; the elements are 0, {1}, {2}, {1,2} and all",
             "reset(0,3)=1 relate(0,0,1)=1 relate(0,0,2)=2 elementCount(0)=5",
             "meet(0,1,2)=0 meet(0,3,1)=1 meet(0,4,3)=3 meet(0,2,2)=2 meet(0,0,4)=0",
@@ -187,7 +110,7 @@ public final class PromisesTest {
             "meet(0,MIN,MAX)=-1 join(MAX,0,0)=-1 implies(MIN,0,0)=-1 meet(0,3,3)=3 join(0,3,0)=3 implies(0,3,0)=0");
     }
 
-    private static void text() throws IllegalAccessException {
+    private static void text() {
         run("promise 14: append",
             "append(33)=1 append(126)=2 append(32)=-2 append(127)=-2 append(-1)=-2 append(MIN)=-2 append(MAX)=-2",
             "clearText()=2 write(1111111111222222222233333333334444444444) append(112)=-7 append(32)=-2 append(127)=-2",
@@ -210,7 +133,7 @@ public final class PromisesTest {
             "write(1) parse(4)=1 formulaSize(4)=1 write(p&p&p) parse(4)=5 formulaSize(4)=5");
     }
 
-    private static void grammar() throws IllegalAccessException {
+    private static void grammar() {
         run("promise 16: error positions",
             "parse(0)=-100 write(&) parse(0)=-100 write(>p) parse(0)=-100 write(p>) parse(0)=-102 write(p|) parse(0)=-102",
             "write(~) parse(0)=-101 write(() parse(0)=-101 write(()) parse(0)=-101 write()) parse(0)=-100",
@@ -234,7 +157,7 @@ public final class PromisesTest {
             "write(~p>q) parse(0)=4 value(0,0)=4 write(~~p|q) parse(0)=5 value(0,0)=4 write(p>0>q>r) parse(0)=7 value(0,0)=7");
     }
 
-    private static void substitution() throws IllegalAccessException {
+    private static void substitution() {
         run("promise 18: substitute",
             "write(p&q) parse(0)=3 write(p>r) parse(1)=3 substitute(0,0,1,2)=5 formulaSize(2)=5 formulaSize(0)=3",
             "formulaSize(1)=3 substitute(0,2,1,3)=3 formulaSize(3)=3 substitute(0,0,0,0)=5 formulaSize(0)=5",
@@ -257,7 +180,7 @@ public final class PromisesTest {
             "substitute(MIN,0,0,0)=-1 substitute(0,MAX,0,0)=-1 substitute(0,0,0,5)=1 formulaSize(5)=1 formulaSize(1)=-3");
     }
 
-    private static void values() throws IllegalAccessException {
+    private static void values() {
         run("promise 19: setValue",
             "reset(0,2)=1 setValue(0,0,3)=0 setValue(0,0,1)=3 setValue(0,1,2)=0 setValue(0,2,3)=0 setValue(0,2,0)=3",
             "setValue(0,1,1)=2 setValue(1,0,1)=0 setValue(1,0,2)=-1 setValue(0,0,4)=-1 setValue(0,0,-1)=-1 setValue(0,3,0)=-1",
@@ -273,7 +196,7 @@ public final class PromisesTest {
             "isForced(0,1,0)=-3 isForced(0,1,3)=-1 isForced(0,0,MAX)=-1 isForced(0,0,MIN)=-1 isForced(0,0,32)=-1");
     }
 
-    private static void validity() throws IllegalAccessException {
+    private static void validity() {
         run("promise 22: isValid",
             "write(p|~p) parse(0)=4 write(((p>q)>p)>p) parse(1)=7 write(p>p|q) parse(2)=5 write(~p|~~p) parse(3)=6 isValid(0,0)=1",
             "isValid(0,1)=1 reset(0,2)=1 isValid(0,0)=1 relate(0,0,1)=1 isValid(0,0)=0 isValid(0,1)=0 isValid(0,2)=1 isValid(0,3)=1",
@@ -308,7 +231,7 @@ public final class PromisesTest {
             "countValuations(0,6,0)=-1 countValuations(0,-1,0)=-1 countValuations(0,3,3)=-1 countValuations(0,0,MAX)=-1");
     }
 
-    private static void filters() throws IllegalAccessException {
+    private static void filters() {
         run("promise 25: filterClass",
             "reset(0,3)=1 relate(0,0,1)=1 relate(0,0,2)=2 filterClass(0,3,4)=3 filterClass(0,3,3)=3 filterClass(0,4,3)=3",
             "filterClass(0,4,4)=4 filterClass(0,0,4)=0 filterClass(0,1,2)=0 filterClass(0,1,3)=1 filterClass(0,2,4)=2",
@@ -324,7 +247,7 @@ public final class PromisesTest {
             "reset(1,2)=1 isPrime(1,3)=0 isPrime(1,1)=1");
     }
 
-    private static void terms() throws IllegalAccessException {
+    private static void terms() {
         run("promise 28: addGenerator",
             "addGenerator(63)=1 addGenerator(0)=2 addGenerator(64)=-2 addGenerator(-1)=-2 addGenerator(63)=3 addGenerator(1)=4",
             "addGenerator(1)=-7 addGenerator(64)=-2 addGenerator(-1)=-2 clearGenerators()=4 addGenerator(MIN)=-2 addGenerator(MAX)=-2");
@@ -357,7 +280,7 @@ public final class PromisesTest {
             "addGenerator(2)=2 addGenerator(1)=3 generate(0)=8 term(4,0)=3 term(4,1)=1 term(4,2)=1 term(4,3)=2");
     }
 
-    private static void maps() throws IllegalAccessException {
+    private static void maps() {
         run("promise 32: countMaps between 0 < 1 and two points, of all kinds",
             "reset(0,2)=1 relate(0,0,1)=1 reset(1,2)=1 countMaps(0,0,0)=3 countMaps(0,0,1)=2 countMaps(0,0,2)=1 countMaps(0,0,3)=1",
             "countMaps(0,1,0)=2 countMaps(0,1,1)=2 countMaps(0,1,2)=0 countMaps(0,1,3)=0 countMaps(1,0,0)=4 countMaps(1,0,1)=1",
@@ -386,7 +309,7 @@ public final class PromisesTest {
             "isIsomorphic(-1,0)=-1 isIsomorphic(0,-1)=-1 isIsomorphic(MIN,MAX)=-1");
     }
 
-    private static void madePosets() throws IllegalAccessException {
+    private static void madePosets() {
         run("promise 35: sum",
             "reset(0,2)=1 relate(0,1,0)=1 reset(1,3)=1 relate(1,0,2)=1 sum(0,1,0,2)=5 points(2)=5 property(2,5)=2 isBelow(2,1,0)=1",
             "isBelow(2,2,4)=1 isBelow(2,0,4)=0 sum(0,1,1,2)=5 property(2,5)=8 isBelow(2,0,2)=1 isBelow(2,2,0)=0 isBelow(2,1,4)=1",
@@ -420,7 +343,7 @@ public final class PromisesTest {
             "dual(0,0)=3 isIsomorphic(0,1)=0 dual(4,0)=-1 dual(0,4)=-1 dual(-1,0)=-1 dual(0,-1)=-1 dual(2,0)=1 points(0)=1");
     }
 
-    private static void valuationsAreForgotten() throws IllegalAccessException {
+    private static void valuationsAreForgotten() {
         String set = "reset(0,2)=1 relate(0,0,1)=1 setValue(0,0,1)=0 setValue(0,1,2)=0 setValue(0,2,1)=0 setValue(1,0,1)=0 ";
         String gone = " setValue(0,0,0)=0 setValue(0,1,0)=0 setValue(0,2,0)=0 setValue(1,0,0)=1";
         String kept = " setValue(0,0,0)=1 setValue(0,1,0)=2 setValue(0,2,0)=1 setValue(1,0,0)=1";
@@ -437,7 +360,7 @@ public final class PromisesTest {
             "generate(0)=2 countMaps(0,0,0)=3 value(0,0)=2", kept);
     }
 
-    private static void rows() throws IllegalAccessException {
+    private static void rows() {
         run("promise 39: allocate",
             "allocate(0,0,30)=30 allocate(1,1,0)=0 allocate(2,2,5)=5 allocate(0,0,31)=-2 allocate(0,3,1)=-2 allocate(0,-1,1)=-2",
             "allocate(0,0,-1)=-11 allocate(0,3,-1)=-2 allocate(0,0,MIN)=-11 allocate(0,0,MAX)=-2 allocate(3,0,1)=-1 allocate(-1,0,1)=-1",
@@ -457,7 +380,7 @@ public final class PromisesTest {
             "put(0,1,-5)=1 rowElement(0,1)=-5 rowElement(0,0)=0 allocate(0,2,0)=0 rowElement(0,0)=NOTHING");
     }
 
-    private static void copies() throws IllegalAccessException {
+    private static void copies() {
         String fill = "allocate(0,2,5)=5 put(0,0,1)=1 put(0,1,2)=1 put(0,2,3)=1 put(0,3,4)=1 put(0,4,5)=1 ";
         run("promise 42: copies within a row that overlap", fill,
             "copyElements(0,0,0,1,4)=4 rowElement(0,0)=1 rowElement(0,1)=1 rowElement(0,2)=2 rowElement(0,3)=3 rowElement(0,4)=4",
@@ -477,7 +400,7 @@ public final class PromisesTest {
             "put(0,0,200)=1 copyElements(0,0,1,1,1)=1 rowElement(1,1)=-56");
     }
 
-    private static void stored() throws IllegalAccessException {
+    private static void stored() {
         run("promise 43: storeElements",
             "storeElements(0,0)=-8 storeElements(3,0)=-1 storeElements(0,4)=-1 storeElements(-1,0)=-1 storeElements(0,-1)=-1",
             "allocate(0,2,6)=6 put(0,5,9)=1 put(0,4,9)=1 put(0,0,9)=1 reset(0,2)=1 storeElements(0,0)=4 rowElement(0,0)=0 rowElement(0,1)=1",
@@ -489,7 +412,7 @@ public final class PromisesTest {
             "allocate(1,0,30)=30 storeElements(1,0)=-10 rowElement(1,6)=32 rowElement(1,29)=25 rowElement(1,22)=7");
     }
 
-    private static void loaded() throws IllegalAccessException {
+    private static void loaded() {
         run("promises 44 and 45: all elements are used",
             "failure()=0 reset(0,3)=1 allocate(0,0,6)=6 put(0,0,2)=1 put(0,1,1)=1 put(0,2,1)=1 put(0,3,0)=1 loadOrder(0,0)=3 failure()=0",
             "property(0,5)=3 isBelow(0,2,0)=1 allocate(0,0,0)=0 loadOrder(0,0)=0 failure()=0");
@@ -511,7 +434,7 @@ public final class PromisesTest {
             "put(0,29,6)=1 loadOrder(0,0)=14 failure()=1");
     }
 
-    private static void examples() throws IllegalAccessException {
+    private static void examples() {
         run("example 1: closed sets of two points",
             "reset(0,2)=1 relate(0,0,1)=1 elementCount(0)=3 elementBits(0,1)=2 implies(0,2,1)=1 implies(0,1,0)=0 property(0,0)=2");
         run("example 2: a refutation",
@@ -524,56 +447,5 @@ public final class PromisesTest {
         run("example 5: faults and refusals",
             "append(112)=1 append(38)=2 append(40)=3 append(113)=4 parse(0)=-104 reset(0,2)=1 relate(0,0,1)=1 relate(0,1,0)=-4",
             "elementOf(0,1)=-6 elementOf(0,2)=1");
-    }
-
-    /** Every method with all extreme arguments, on a new object and on one that is in use. */
-    private static void extremes() throws IllegalAccessException {
-        int[] values = {Integer.MIN_VALUE, Integer.MIN_VALUE + 1, -1, 0, 1, 2, 6, 31, 63, 64, Integer.MAX_VALUE};
-        for (Method method : METHODS.values()) {
-            int count = method.getParameterCount();
-            int total = 1;
-            for (int i = 0; i < count; i++) {
-                total *= values.length;
-            }
-            ImplicationAlgebras fresh = new ImplicationAlgebras();
-            ImplicationAlgebras used = usedBench();
-            for (int code = 0; code < total; code++) {
-                StringBuilder list = new StringBuilder();
-                int rest = code;
-                for (int i = 0; i < count; i++) {
-                    list.append(i == 0 ? "" : ",").append(values[rest % values.length]);
-                    rest /= values.length;
-                }
-                if (code % 100 == 0) {
-                    fresh = new ImplicationAlgebras();
-                    used = usedBench();
-                }
-                answer(fresh, method.getName(), list.toString());
-                answer(used, method.getName(), list.toString());
-                calls += 2;
-            }
-        }
-    }
-
-    private static ImplicationAlgebras usedBench() {
-        ImplicationAlgebras bench = new ImplicationAlgebras();
-        bench.reset(1, 6);
-        bench.reset(2, 3);
-        bench.relate(2, 0, 1);
-        for (char c : "p&~q>r|0".toCharArray()) {
-            bench.append(c);
-        }
-        bench.parse(1);
-        for (char c : "~~p>p".toCharArray()) {
-            bench.append(c);
-        }
-        bench.parse(2);
-        bench.addGenerator(1);
-        bench.generate(2);
-        bench.allocate(0, 0, 30);
-        bench.allocate(1, 2, 6);
-        bench.put(1, 1, 1);
-        bench.append('(');
-        return bench;
     }
 }

@@ -30,6 +30,8 @@ public final class ImplicationAlgebras {
     private static final int MOST_GENERATORS = 4;
     private static final int ROWS = 3;
     private static final int MOST_ROW_ELEMENTS = 30;
+    // The least long; written as a shift, because the rules list functions of Long but not its constants.
+    private static final long NO_ROW_ELEMENT = 1L << 63;
 
     private static final int VARIABLES = 3;
 
@@ -570,7 +572,7 @@ public final class ImplicationAlgebras {
     public long rowElement(int row, int index) {
         Row source = rowAt(row);
         if (source == null || source.isMissing() || !source.hasIndex(index)) {
-            return Long.MIN_VALUE;
+            return NO_ROW_ELEMENT;
         }
         return source.data[index];
     }

@@ -114,7 +114,8 @@ public final class LanguageTest {
         for (Class<?> type : classes) {
             for (Field field : type.getDeclaredFields()) {
                 if (Modifier.isStatic(field.getModifiers())) {
-                    expect(Modifier.isFinal(field.getModifiers()) && field.getType() == int.class,
+                    boolean isNumber = field.getType() == int.class || field.getType() == long.class;
+                    expect(Modifier.isFinal(field.getModifiers()) && isNumber,
                             "rule 5: the static field " + field.getName());
                 }
             }
@@ -156,7 +157,7 @@ public final class LanguageTest {
     }
 
     private static void onlyListedLibrary(String code) {
-        Set<String> allowed = Set.of("Integer.bitCount", "Math.max", "Math.min", "System.arraycopy", "Long.MIN_VALUE");
+        Set<String> allowed = Set.of("Integer.bitCount", "Math.max", "Math.min", "System.arraycopy");
         Matcher use = Pattern.compile("\\b(Integer|Long|Math|System|Arrays|String|Character|java)\\.(\\w+)").matcher(code);
         while (use.find()) {
             expect(allowed.contains(use.group()), "rule 4: the source uses " + use.group());

@@ -434,18 +434,21 @@ public final class PromisesTest {
             "put(0,29,6)=1 loadOrder(0,0)=14 failure()=1");
     }
 
+    /** The examples are read from the document itself, so that none of them is copied wrongly. */
     private static void examples() {
-        run("example 1: closed sets of two points",
-            "reset(0,2)=1 relate(0,0,1)=1 elementCount(0)=3 elementBits(0,1)=2 implies(0,2,1)=1 implies(0,1,0)=0 property(0,0)=2");
-        run("example 2: a refutation",
-            "reset(0,2)=1 relate(0,0,1)=1 append(112)=1 append(124)=2 append(126)=3 append(112)=4 parse(0)=4 isValid(0,0)=0",
-            "refutation(0,0,0)=1 setValue(0,0,1)=0 value(0,0)=1 isForced(0,0,0)=0 isForced(0,0,1)=1");
-        run("example 3: a generated subalgebra",
-            "reset(0,3)=1 elementCount(0)=8 addGenerator(1)=1 addGenerator(2)=2 generate(0)=8 term(4,0)=3 term(4,1)=1 term(3,0)=5");
-        run("example 4: maps that keep the order",
-            "reset(0,2)=1 reset(1,2)=1 relate(1,0,1)=1 countMaps(0,1,0)=4 countMaps(0,1,1)=1 firstMap(1,0,1)=0 isIsomorphic(0,1)=0");
-        run("example 5: faults and refusals",
-            "append(112)=1 append(38)=2 append(40)=3 append(113)=4 parse(0)=-104 reset(0,2)=1 relate(0,0,1)=1 relate(0,1,0)=-4",
-            "elementOf(0,1)=-6 elementOf(0,2)=1");
+        String document = Calls.document();
+        int begin = document.indexOf("## Examples") + "## Examples".length();
+        String words = document.substring(begin, document.indexOf("## ", begin)).replaceAll("\\s+", " ");
+        String[] parts = words.split("(?=[A-Z][a-z ]+:)");
+        int found = 0;
+        for (String part : parts) {
+            if (!part.isBlank()) {
+                int colon = part.indexOf(':');
+                found++;
+                run("example: " + part.substring(0, colon),
+                    part.substring(colon + 1).replace(" -> ", "=").replaceAll(", ", " "));
+            }
+        }
+        Calls.expect(found == 5, "the document has 5 examples, found " + found);
     }
 }
